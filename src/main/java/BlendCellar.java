@@ -70,8 +70,8 @@ public final class BlendCellar {
     private final Row[] rows = new Row[MOST_ROWS];
     private final ArrayList<Label> labels = new ArrayList<>();
     private final Picks picks = new Picks();
-    private final Tally tally = new Tally();
-    private final Planner planner = new Planner(tally);
+    private final Tally judged = new Tally(1);
+    private final Planner planner = new Planner();
     private final Wine[] accounts = new Wine[ACCOUNTS];
     private final Wine balance = new Wine();
     private final Lines journal = new Lines();
@@ -474,8 +474,7 @@ public final class BlendCellar {
         long gone = 0;
         for (int i = 0; i < m; i++) {
             long ml = vessel.wine.total * rate / 10000;
-            drawing.takeShare(vessel.wine, ml);
-            accounts[BREATHED_AWAY].addAll(drawing.share);
+            drawing.takeOut(vessel.wine, ml, accounts[BREATHED_AWAY]);
             gone += ml;
         }
         return gone;
@@ -635,12 +634,12 @@ public final class BlendCellar {
             return -bad;
         }
         Label label = labels.get(l);
-        tally.count(barrels.get(b));
-        brokenRule = label.firstBroken(tally);
+        judged.countAlone(barrels.get(b));
+        brokenRule = label.firstBroken(judged);
         if (brokenRule == NO_NUMBER) {
             return 1;
         }
-        return label.answerOf(brokenRule, tally) == SHARED_BY_NOUGHT ? -BY_NOUGHT : 0;
+        return label.answerOf(brokenRule, judged) == SHARED_BY_NOUGHT ? -BY_NOUGHT : 0;
     }
 
     public long plan(int l, long ml, int step) {
@@ -776,12 +775,12 @@ public final class BlendCellar {
     public int odd() {
         balance.copyFrom(accounts[FILLED_IN]);
         for (int how = BREATHED_AWAY; how < ACCOUNTS; how++) {
-            balance.takeAway(accounts[how]);
+            balance.subtract(accounts[how]);
         }
         for (int b = 0; b < barrels.size(); b++) {
-            balance.takeAway(barrels.get(b).wine);
+            balance.subtract(barrels.get(b).wine);
         }
-        return balance.count;
+        return balance.countUneven();
     }
 
     public int strays() {
@@ -983,9 +982,8 @@ public final class BlendCellar {
     }
 
     private void pourInto(Barrel vessel) {
-        drawing.carryOut(before);
         before.keepBarrel(vessel);
-        vessel.wine.addAll(drawing.drawn);
+        drawing.carryOut(before, vessel.wine);
     }
 
     private void drawOff(Barrel barrel, long ml, int how) {
@@ -993,8 +991,7 @@ public final class BlendCellar {
         drawing.drawFrom(barrel, ml, bodies);
         remember();
         before.keepAccount(how, accounts[how]);
-        drawing.carryOut(before);
-        accounts[how].addAll(drawing.drawn);
+        drawing.carryOut(before, accounts[how]);
     }
 
     /** Amounts by rising parts: what a vessel has, what is drawn, or an account. */
@@ -1035,49 +1032,48 @@ public final class BlendCellar {
 
         void add(int part, long ml) {
             int i = indexOf(part);
-            if (!isAt(i, part)) {
-                insertAt(i, part);
+            if (isAt(i, part)) {
+                amounts[i] += ml;
+            } else {
+                if (count >= parts.length) {
+                    parts = Arrays.copyOf(parts, 2 * parts.length);
+                    amounts = Arrays.copyOf(amounts, 2 * amounts.length);
+                }
+                System.arraycopy(parts, i, parts, i + 1, count - i);
+                System.arraycopy(amounts, i, amounts, i + 1, count - i);
+                parts[i] = part;
+                amounts[i] = ml;
+                count++;
             }
-            amounts[i] += ml;
             total += ml;
         }
 
-        private void insertAt(int i, int part) {
-            makeRoomFor(count + 1);
-            System.arraycopy(parts, i, parts, i + 1, count - i);
-            System.arraycopy(amounts, i, amounts, i + 1, count - i);
-            parts[i] = part;
-            amounts[i] = 0;
-            count++;
-        }
-
-        private void makeRoomFor(int wanted) {
-            if (wanted > parts.length) {
-                int length = Math.max(wanted, 2 * parts.length);
-                parts = Arrays.copyOf(parts, length);
-                amounts = Arrays.copyOf(amounts, length);
-            }
-        }
-
-        void addAll(Wine other) {
-            for (int i = 0; i < other.count; i++) {
-                add(other.parts[i], other.amounts[i]);
-            }
-        }
-
-        void takeAway(Wine other) {
+        /** What falls below 0, or to it, stays: a balance has to tell of both. */
+        void subtract(Wine other) {
             for (int i = 0; i < other.count; i++) {
                 add(other.parts[i], -other.amounts[i]);
             }
-            dropNoughts();
         }
 
-        private void dropNoughts() {
-            int kept = 0;
+        int countUneven() {
+            int uneven = 0;
             for (int i = 0; i < count; i++) {
                 if (amounts[i] != 0) {
+                    uneven++;
+                }
+            }
+            return uneven;
+        }
+
+        /** Lets go, of each part, what stands for it; a part of which nothing is left is none. */
+        void lessen(long[] going) {
+            int kept = 0;
+            for (int i = 0; i < count; i++) {
+                long goes = i < going.length ? going[i] : 0;
+                total -= goes;
+                if (amounts[i] > goes) {
                     parts[kept] = parts[i];
-                    amounts[kept] = amounts[i];
+                    amounts[kept] = amounts[i] - goes;
                     kept++;
                 }
             }
@@ -1085,7 +1081,10 @@ public final class BlendCellar {
         }
 
         void copyFrom(Wine other) {
-            makeRoomFor(other.count);
+            if (other.count > parts.length) {
+                parts = new int[other.parts.length];
+                amounts = new long[other.amounts.length];
+            }
             System.arraycopy(other.parts, 0, parts, 0, other.count);
             System.arraycopy(other.amounts, 0, amounts, 0, other.count);
             count = other.count;
@@ -1101,27 +1100,6 @@ public final class BlendCellar {
                 }
             }
             return together;
-        }
-
-        /** Tells, onto another wine, what of each part goes if ml are drawn; nothing is changed here. */
-        void shareOut(long ml, Wine onto) {
-            if (ml <= 0 || total <= 0) {
-                return;
-            }
-            long wanting = ml;
-            for (int i = 0; i < count; i++) {
-                wanting -= ml * amounts[i] / total;
-            }
-            for (int i = 0; i < count; i++) {
-                long goes = ml * amounts[i] / total;
-                if (wanting > 0 && ml * amounts[i] % total != 0) {
-                    goes++;
-                    wanting--;
-                }
-                if (goes > 0) {
-                    onto.add(parts[i], goes);
-                }
-            }
         }
     }
 
@@ -1460,9 +1438,9 @@ public final class BlendCellar {
     private static final class Drawing {
         private final Barrel[] vessels = new Barrel[MOST_PICKED * MOST_MEMBERS];
         private final long[] amounts = new long[MOST_PICKED * MOST_MEMBERS];
+        private final long[] going = new long[MOST_PARTS];
         private int count = 0;
         final Wine drawn = new Wine();
-        final Wine share = new Wine();
 
         void clear() {
             count = 0;
@@ -1484,25 +1462,50 @@ public final class BlendCellar {
         }
 
         private void drawFromVessel(Barrel vessel, long ml) {
-            if (ml > 0 && count < vessels.length) {
-                vessels[count] = vessel;
-                amounts[count] = ml;
-                count++;
-                vessel.wine.shareOut(ml, drawn);
+            if (ml <= 0 || count >= vessels.length) {
+                return;
             }
+            vessels[count] = vessel;
+            amounts[count] = ml;
+            count++;
+            reckonShares(vessel.wine, ml);
+            addGoing(vessel.wine, drawn);
         }
 
-        void carryOut(Before before) {
+        void carryOut(Before before, Wine onto) {
             for (int i = 0; i < count; i++) {
                 before.keepBarrel(vessels[i]);
-                takeShare(vessels[i].wine, amounts[i]);
+                takeOut(vessels[i].wine, amounts[i], onto);
             }
         }
 
-        void takeShare(Wine wine, long ml) {
-            share.clear();
-            wine.shareOut(ml, share);
-            wine.takeAway(share);
+        void takeOut(Wine wine, long ml, Wine onto) {
+            reckonShares(wine, ml);
+            addGoing(wine, onto);
+            wine.lessen(going);
+        }
+
+        private void reckonShares(Wine wine, long ml) {
+            long all = wine.total;
+            long wanting = ml;
+            for (int i = 0; i < wine.count && i < going.length; i++) {
+                going[i] = all == 0 ? 0 : ml * wine.amounts[i] / all;
+                wanting -= going[i];
+            }
+            for (int i = 0; i < wine.count && i < going.length && wanting > 0; i++) {
+                if (all != 0 && ml * wine.amounts[i] % all != 0) {
+                    going[i]++;
+                    wanting--;
+                }
+            }
+        }
+
+        private void addGoing(Wine wine, Wine onto) {
+            for (int i = 0; i < wine.count && i < going.length; i++) {
+                if (going[i] > 0) {
+                    onto.add(wine.parts[i], going[i]);
+                }
+            }
         }
     }
 
@@ -1679,55 +1682,49 @@ public final class BlendCellar {
     }
 
     /**
-     * How much of a wine has which harvest, vineyard and grape. It has a slot for each amount of
-     * each barrel that a plan may take, and the wine at hand is the sum of the chosen slots: so a
-     * plan draws each amount once, however many blends it tries.
+     * How much of a wine has which harvest, vineyard and grape. The wine is the sum of the slots
+     * that are chosen, one of each source: so a plan draws each amount of a barrel once, however
+     * many blends it tries.
      */
     private static final class Tally {
         private static final int VALUES = 16;
         private static final int SUMS = 3 * VALUES;
-        private final long[] sums = new long[MOST_PLANNED * STEP_SLOTS * SUMS];
+        private final long[] sums;
         private final int[] chosen = new int[MOST_PLANNED];
         private int chosenCount = 0;
         long total = 0;
 
-        void begin(int count, long inAll) {
-            chosenCount = Math.min(count, chosen.length);
-            total = inAll;
-            Arrays.fill(chosen, 0);
+        Tally(int slots) {
+            sums = new long[Math.max(slots, 1) * SUMS];
         }
 
-        void count(Barrel barrel) {
+        void begin(int sources, long inAll) {
+            chosenCount = Math.min(sources, chosen.length);
+            total = inAll;
+        }
+
+        void countAlone(Barrel barrel) {
             begin(1, barrel.has());
+            choose(0, 0);
             clearSlot(0);
             addToSlot(0, barrel.wine);
             for (int i = 0; i < barrel.memberCount; i++) {
                 addToSlot(0, barrel.members[i].wine);
             }
-            choose(0, 0);
         }
 
-        void put(int source, int steps, Wine wine) {
-            int start = startOf(source, steps);
-            clearSlot(start);
-            addToSlot(start, wine);
+        void choose(int source, int slot) {
+            chosen[source] = slot * SUMS;
         }
 
-        void choose(int source, int steps) {
-            chosen[source] = startOf(source, steps);
-        }
-
-        private static int startOf(int source, int steps) {
-            return (source * STEP_SLOTS + steps) * SUMS;
-        }
-
-        private void clearSlot(int start) {
+        void clearSlot(int slot) {
             for (int i = 0; i < SUMS; i++) {
-                sums[start + i] = 0;
+                sums[slot * SUMS + i] = 0;
             }
         }
 
-        private void addToSlot(int start, Wine wine) {
+        void addToSlot(int slot, Wine wine) {
+            int start = slot * SUMS;
             for (int i = 0; i < wine.count; i++) {
                 int part = wine.parts[i];
                 sums[start + part / 256 % VALUES] += wine.amounts[i];
@@ -1748,8 +1745,9 @@ public final class BlendCellar {
 
     /** Tries all amounts for what is picked, the lowest first amounts first. */
     private static final class Planner {
-        private final Tally tally;
-        private final long[] dears = new long[MOST_PLANNED * STEP_SLOTS];
+        private static final int SLOTS = MOST_PLANNED * STEP_SLOTS;
+        private final Tally tally = new Tally(SLOTS);
+        private final long[] dears = new long[SLOTS];
         private final int[] mostSteps = new int[MOST_PLANNED];
         private final int[] tried = new int[MOST_PLANNED];
         private final int[] best = new int[MOST_PLANNED];
@@ -1759,8 +1757,9 @@ public final class BlendCellar {
         private final long[] settled = new long[MOST_PLANNED];
         private int settledCount = 0;
 
-        Planner(Tally tally) {
-            this.tally = tally;
+        /** The slot of so many steps of a source; those of no step are never written to. */
+        private static int slotOf(int source, int steps) {
+            return source * STEP_SLOTS + steps;
         }
 
         void begin(Label label, int sources, long ml) {
@@ -1771,13 +1770,14 @@ public final class BlendCellar {
         }
 
         void setDear(int source, int steps, long dear) {
-            dears[source * STEP_SLOTS + steps] = dear;
+            dears[slotOf(source, steps)] = dear;
         }
 
         /** Offers are made by rising steps, so the latest is the most. */
         void offer(int source, int steps, Wine drawn) {
             mostSteps[source] = steps;
-            tally.put(source, steps, drawn);
+            tally.clearSlot(slotOf(source, steps));
+            tally.addToSlot(slotOf(source, steps), drawn);
         }
 
         /** The least sum of DEAR, or NO_NUMBER. */
@@ -1793,22 +1793,18 @@ public final class BlendCellar {
                 return;
             }
             if (source >= count) {
-                takeIfHolds(left, dear);
+                if (left == 0 && wanted != null && wanted.firstBroken(tally) == NO_NUMBER) {
+                    least = dear;
+                    System.arraycopy(tried, 0, best, 0, count);
+                }
                 return;
             }
             int fewest = source == count - 1 ? left : 0;
             int most = Math.min(left, mostSteps[source]);
             for (int k = fewest; k <= most; k++) {
                 tried[source] = k;
-                tally.choose(source, k);
-                chooseFrom(source + 1, left - k, dear + dears[source * STEP_SLOTS + k]);
-            }
-        }
-
-        private void takeIfHolds(int left, long dear) {
-            if (left == 0 && wanted != null && wanted.firstBroken(tally) == NO_NUMBER) {
-                least = dear;
-                System.arraycopy(tried, 0, best, 0, count);
+                tally.choose(source, slotOf(source, k));
+                chooseFrom(source + 1, left - k, dear + dears[slotOf(source, k)]);
             }
         }
 
