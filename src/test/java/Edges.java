@@ -41,6 +41,8 @@ final class Edges {
     private static final Map<String, Method> METHODS = methods();
     private static final String DOCUMENT = document();
     private static final TreeSet<Integer> TOLD = new TreeSet<>();
+    /** How often an object may be asked in the run that is under way. */
+    private static int mostCalls = MOST_CALLS;
     private static int wrong = 0;
     private static int edges = 0;
     private static int asked = 0;
@@ -88,6 +90,9 @@ final class Edges {
                 values[i] = m.getParameterTypes()[i] == int.class ? (Object) (int) numbers[i] : (Object) numbers[i];
             }
             calls++;
+            if (calls > mostCalls) {
+                throw new IllegalStateException("an object is asked more than " + mostCalls + " times");
+            }
             try {
                 return ((Number) m.invoke(x, values)).longValue();
             } catch (InvocationTargetException | IllegalAccessException e) {
@@ -163,20 +168,22 @@ final class Edges {
 
     /** Promise 0 stands for the Terms. */
     static void edge(int promise, String words, String... runs) {
-        edge(MOST_CALLS, promise, words, runs);
+        mostCalls = MOST_CALLS;
+        tell(promise, words, runs);
     }
 
     static void longEdge(int promise, String words, String... runs) {
-        edge(Integer.MAX_VALUE, promise, words, runs);
+        mostCalls = Integer.MAX_VALUE;
+        tell(promise, words, runs);
     }
 
-    private static void edge(int mostCalls, int promise, String words, String... runs) {
+    private static void tell(int promise, String words, String... runs) {
         edges++;
         TOLD.add(promise);
         lookUpWords(promise, words);
         String where = (promise == 0 ? "Terms" : "promise " + promise) + ", \"" + words + "\"";
         try {
-            run(where, mostCalls, parse(String.join(";", runs)));
+            run(where, parse(String.join(";", runs)));
         } catch (IllegalStateException e) {
             due(where + ": " + e.getMessage(), 1, 0);
         }
@@ -202,7 +209,7 @@ final class Edges {
         }
     }
 
-    private static void run(String where, int mostCalls, List<Call> calls) {
+    private static void run(String where, List<Call> calls) {
         Cellar c = new Cellar();
         int acts = 0;
         for (Call call : calls) {
@@ -232,7 +239,6 @@ final class Edges {
                 checkQuestion(what, before, call);
             }
         }
-        due(where + ": calls beyond the promised", Math.max(0, c.calls - mostCalls), 0);
     }
 
     private static void checkTrace(String what, Cellar c, long[] bodies) {
@@ -310,7 +316,7 @@ final class Edges {
     private static long barrels(List<Call> calls) {
         Cellar c = Cellar.of(calls);
         int b = 0;
-        while (b < 1000 && c.x.kindOf(b) != 0) {
+        while (b < 1000 && c.ask("kindOf", b) != 0) {
             b++;
         }
         return b;
@@ -337,8 +343,8 @@ final class Edges {
 
     /** What the questions tell behind these calls has to be what they tell behind the others. */
     private static void same(String what, List<Call> calls, List<Call> others, boolean picks) {
-        TreeSet<String> questions = questions(Cellar.of(calls).x, calls, picks);
-        questions.addAll(questions(Cellar.of(others).x, others, picks));
+        TreeSet<String> questions = questions(calls, picks);
+        questions.addAll(questions(others, picks));
         List<Long> got = answers(calls, questions);
         List<Long> want = answers(others, questions);
         int i = 0;
@@ -352,7 +358,7 @@ final class Edges {
         List<Long> all = new ArrayList<>();
         Cellar c = Cellar.of(calls);
         for (String question : questions) {
-            if (c.calls >= MOST_CALLS && calls.size() < MOST_CALLS) {
+            if (c.calls >= mostCalls) {
                 c = Cellar.of(calls);
             }
             Call call = new Call(question);
@@ -362,7 +368,10 @@ final class Edges {
     }
 
     /** All but WHY, WHICH, tries and the trace; of lists the end, of parts and places those that were named. */
-    private static TreeSet<String> questions(BlendCellar x, List<Call> calls, boolean picks) {
+    private static TreeSet<String> questions(List<Call> calls, boolean picks) {
+        Cellar c = Cellar.of(calls);
+        long bottlings = c.ask("bottlings");
+        long entries = c.ask("entries");
         TreeSet<String> all = new TreeSet<>(List.of("digest()", "month()", "bottlings()", "entries()", "odd()",
             "strays()", "closed()"));
         if (picks) {
@@ -372,10 +381,10 @@ final class Edges {
             }
         }
         for (int what = 0; what < 4; what++) {
-            for (int i = Math.max(0, x.bottlings() - 3); i < x.bottlings(); i++) {
+            for (long i = Math.max(0, bottlings - 3); i < bottlings; i++) {
                 all.add("bottling(" + i + ", " + what + ")");
             }
-            for (int i = Math.max(0, x.entries() - 9); i < x.entries(); i++) {
+            for (long i = Math.max(0, entries - 9); i < entries; i++) {
                 all.add("entry(" + i + ", " + what + ")");
             }
         }
