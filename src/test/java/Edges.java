@@ -178,10 +178,14 @@ final class Edges {
     }
 
     private static void tell(int promise, String words, String... runs) {
-        edges++;
         TOLD.add(promise);
         lookUpWords(promise, words);
-        String where = (promise == 0 ? "Terms" : "promise " + promise) + ", \"" + words + "\"";
+        tell((promise == 0 ? "Terms" : "promise " + promise) + ", \"" + words + "\"", runs);
+    }
+
+    /** A run that is told elsewhere than in the document. */
+    static void tell(String where, String... runs) {
+        edges++;
         try {
             run(where, parse(String.join(";", runs)));
         } catch (IllegalStateException e) {

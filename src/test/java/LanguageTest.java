@@ -8,6 +8,8 @@ import java.nio.file.Path;
 import java.util.ArrayList;
 import java.util.List;
 import java.util.TreeSet;
+import java.util.regex.Matcher;
+import java.util.regex.Pattern;
 
 /** What of LANGUAGE.md can be held against the class by looking at it: the face and the words used. */
 public final class LanguageTest {
@@ -26,6 +28,8 @@ public final class LanguageTest {
         "throw", "throws", "try", "catch", "finally", "synchronized", "assert", "instanceof", "->", "::", "Exact(",
         "hashCode", "toString", "equals", "double", "float", "Random", "currentTimeMillis", "nanoTime", "Thread",
         "static {", "protected", "System.out", "@"};
+    private static final Pattern METHOD = Pattern.compile("((?:    ){1,2})[a-zA-Z].*\\) \\{");
+    private static final int MOST_LINES = 60;
     private static int wrong = 0;
 
     private static void fault(String text) {
@@ -109,8 +113,8 @@ public final class LanguageTest {
         String code = text.replaceAll("(?s)/\\*.*?\\*/", " ").replaceAll("//[^\n]*", " ");
         for (String word : FORBIDDEN) {
             boolean isWord = Character.isLetter(word.charAt(0)) && Character.isLetter(word.charAt(word.length() - 1));
-            String pattern = java.util.regex.Pattern.quote(word);
-            if (java.util.regex.Pattern.compile(isWord ? "\\b" + pattern + "\\b" : pattern).matcher(code).find()) {
+            String pattern = Pattern.quote(word);
+            if (Pattern.compile(isWord ? "\\b" + pattern + "\\b" : pattern).matcher(code).find()) {
                 fault("the class uses: " + word);
             }
         }
@@ -124,9 +128,32 @@ public final class LanguageTest {
         }
     }
 
+    /** A method begins and ends with lines of the same indent: 4 in the class, 8 in a class inside it. */
+    private static void checkLengths() throws IOException {
+        List<String> lines = Files.readAllLines(Path.of("src/main/java/BlendCellar.java"));
+        int methods = 0;
+        for (int i = 0; i < lines.size(); i++) {
+            Matcher head = METHOD.matcher(lines.get(i));
+            if (head.matches()) {
+                int end = i;
+                while (end < lines.size() && !lines.get(end).equals(head.group(1) + "}")) {
+                    end++;
+                }
+                methods++;
+                if (end - i + 1 > MOST_LINES) {
+                    fault("a method of " + (end - i + 1) + " lines: " + lines.get(i).trim());
+                }
+            }
+        }
+        if (methods < FACE.length) {
+            fault("only " + methods + " methods were found in the file");
+        }
+    }
+
     public static void main(String[] args) throws IOException {
         checkFace();
         checkWords();
+        checkLengths();
         System.out.println(wrong == 0 ? "the class keeps to its face and words" : wrong + " faults");
         if (wrong != 0) {
             System.exit(1);
